@@ -20,7 +20,7 @@ public final class CycleController {
     private static final int MOST_TICKS = 100;
     private static final int MOST_LOOP_ROUNDS = 20;
     private static final int MOST_CYCLE_ROUNDS = 300;
-    // Far above need: 300 rounds of at most 60 statements each are fewer than 40,000 steps.
+    // Far above need: each of 300 rounds begins and ends at most 60 statements, 40,000 steps in all.
     private static final int MOST_STEPS = 1000000;
 
     private static final int NO_KIND = 0;
@@ -433,6 +433,8 @@ public final class CycleController {
         }
     }
 
+    // A loop that has had its twenty rounds needs no other one, so that is asked before the cycle's
+    // own bound; a round that finds the loop's end has begun and counts for the cycle all the same.
     private void goOnWithLoop(int place, int token) {
         int loop = pending - 1;
         boolean over = pendingRounds[loop] > 0 && closeRound(place, token);
@@ -445,7 +447,7 @@ public final class CycleController {
             return;
         }
         roundsBegun++;
-        if (isRefusedRound(place, token, pendingLimits[loop])) {
+        if (isOverBeforeBody(place, token, pendingLimits[loop])) {
             pending = loop;
             return;
         }
@@ -464,7 +466,7 @@ public final class CycleController {
         return token == UNTIL && value(condition) != 0;
     }
 
-    private boolean isRefusedRound(int place, int token, int limit) {
+    private boolean isOverBeforeBody(int place, int token, int limit) {
         if (token >= COUNT && token < COUNT + VARIABLES) {
             return variables[token - COUNT] > limit;
         }
