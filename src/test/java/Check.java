@@ -5,6 +5,8 @@ final class Check {
         41, 1000, Integer.MAX_VALUE - 1, Integer.MAX_VALUE };
 
     private final String name;
+    private String sentence = "";
+    private int sentences;
     private int made;
     private int wrong;
 
@@ -16,12 +18,23 @@ final class Check {
         made++;
         if (got != want) {
             wrong++;
-            System.out.println(name + ": " + what + " answered " + got + ", due is " + want);
+            System.out.println(name + ": " + sentence + what + " answered " + got + ", due is " + want);
         }
     }
 
+    /** The test of one sentence of the document, which is told with each answer that is wrong. */
+    void sentence(String words, Runnable test) {
+        sentences++;
+        sentence = "\"" + words + "\": ";
+        int before = made;
+        test.run();
+        due("whether anything was asked", made > before ? 1 : 0, 1);
+        sentence = "";
+    }
+
     void end() {
-        System.out.println(name + ": " + made + " answers, " + wrong + " of them wrong");
+        String about = sentences == 0 ? "" : sentences + " sentences, ";
+        System.out.println(name + ": " + about + made + " answers, " + wrong + " of them wrong");
         if (wrong != 0 || made == 0) {
             System.exit(1);
         }
