@@ -222,6 +222,7 @@ public final class BlockBoundsTest {
         for (int k = 0; k < 3; k++) {
             edges(k, 1, 0, -1, 0, MIN, 0, MAX, 0, 256, 0, 0);
             edges(k, 0, 1);
+            edges(k, 1, 1, 0, -1, -1);
         }
     }
 
@@ -258,30 +259,27 @@ public final class BlockBoundsTest {
             check.block("f was 0", x, k, 0, 1);
             check.cycle(x, 4);
             check.block("DONE was 1", x, k, 0, 0);
+            check.cycle(x, 4);
+            check.block("DONE was 0", x, k, 0, 1);
             x = check.running(60 + k, N1, 130, 146 + k, N1);
-            check.cycle(x, 4);
-            check.block("0 of 0 + 1", x, k, 0, 0);
-            check.cycle(x, 4);
-            check.block("4 of 0 + 1", x, k, 1, 1);
-            check.cycle(x, 0);
-            check.block("4 of 1 + 1", x, k, 2, 1);
+            blocksInTurn(x, k, new int[][] { { 0, 0 }, { 1, 1 }, { 2, 1 }, { 3, 1 } });
             x = check.running(63 + k, 139, 152 + k, N0, 130, 149 + k, N1);
-            check.cycle(x, 0);
-            check.block("1 of 0 + 1", x, k, 0, 0, 1, 1);
-            check.cycle(x, 0);
-            check.block("DONE was 1, and 1 of 1 + 1", x, k, 0, 0, 1, 0);
-            check.cycle(x, 0);
-            check.block("2 of 1 + 1", x, k, 0, 0, 2, 1);
+            blocksInTurn(x, k, new int[][] {
+                { 0, 0, 1, 1 }, { 0, 0, 1, 0 }, { 0, 0, 2, 1 }, { 0, 0, 2, 0 }, { 0, 0, 3, 1 } });
+            x = check.running(63 + k, 139, 149 + k, N0, N1);
+            blocksInTurn(x, k, new int[][] { { 0, 0, 1, 1 }, { 0, 0, 1, 1 }, { 0, 0, 1, 1 } });
             x = check.running(63 + k, N1, 149 + k, N1);
-            check.cycle(x, 0);
-            check.block("VALUE was 0", x, k, 0, 0, 1, 1);
-            check.cycle(x, 0);
-            check.block("VALUE was 1", x, k, 0, 0, 0, 0);
+            blocksInTurn(x, k, new int[][] { { 0, 0, 1, 1 }, { 0, 0, 0, 0 }, { 0, 0, 0, 0 } });
             x = check.running(66 + k, 139, 155 + k);
-            check.cycle(x, 0);
-            check.block("DONE was 0", x, k, 0, 0, 0, 0, 1);
-            check.cycle(x, 0);
-            check.block("DONE was 1", x, k, 0, 0, 0, 0, 0);
+            blocksInTurn(x, k, new int[][] {
+                { 0, 0, 0, 0, 1 }, { 0, 0, 0, 0, 0 }, { 0, 0, 0, 0, 1 }, { 0, 0, 0, 0, 0 } });
+        }
+    }
+
+    private static void blocksInTurn(CycleController x, int k, int[][] turns) {
+        for (int i = 0; i < turns.length; i++) {
+            check.cycle(x, 4);
+            check.block("cycle " + i, x, k, turns[i]);
         }
     }
 }

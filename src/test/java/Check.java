@@ -27,7 +27,11 @@ final class Check {
         sentences++;
         sentence = "\"" + words + "\": ";
         int before = made;
-        test.run();
+        try {
+            test.run();
+        } catch (RuntimeException thrown) {
+            due("a call threw " + thrown + ", which", 1, 0);
+        }
         due("whether anything was asked", made > before ? 1 : 0, 1);
         sentence = "";
     }

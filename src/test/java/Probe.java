@@ -21,19 +21,19 @@ final class Probe {
         return probe.told;
     }
 
-    /** By questions, and then the inputs, the ON, BEGIN and LAST of each block and the time. Changes the object. */
+    // The two below ask nothing before they do something, since a question might hide what was changed before it.
+
+    /** The inputs, the ON, BEGIN and LAST of each block, and the time. Changes the object. */
     static List<Integer> blocks(CycleController x) {
         Probe probe = new Probe(x);
-        probe.ask();
         probe.tell(x.halt(), x.erase(0), x.erase(1));
         probe.show();
         return probe.told;
     }
 
-    /** By questions, and then which program is active, whether it runs, and what both do. Changes the object. */
+    /** Which program is active, whether it runs, and what both do. Changes the object. */
     static List<Integer> programs(CycleController x) {
         Probe probe = new Probe(x);
-        probe.ask();
         for (int i = 0; i < 3; i++) {
             probe.tell(x.cycle(3), x.digest());
         }
@@ -90,14 +90,13 @@ final class Probe {
 
     /** Whether a statement or an expression is wanted tells what the tokens before are. */
     private void takeAway(int p) {
-        int left = x.back(p);
-        while (left >= 0) {
-            tell(left, x.feed(p, 2));
-            if (told.get(told.size() - 1) > 0) {
+        for (int i = 0; i <= 60; i++) {
+            int left = x.back(p);
+            int answer = left < 0 ? left : x.feed(p, 2);
+            tell(left, answer);
+            if (answer > 0) {
                 tell(x.back(p));
             }
-            left = x.back(p);
         }
-        tell(left);
     }
 }

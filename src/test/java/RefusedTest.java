@@ -25,15 +25,23 @@ public final class RefusedTest {
         check.end();
     }
 
-    /** The calls that are to change nothing, on objects made alike: beside each one stands one without the call. */
+    /** A call that is to change nothing: beside an object with it stands one that was made alike, without it. */
     private static void refused(String what, Supplier<CycleController> state, int due, ToIntFunction<CycleController> call) {
-        CycleController first = state.get();
-        check.due(what, call.applyAsInt(first), due);
-        check.due(what + ", once more", call.applyAsInt(first), due);
-        same(what + ": what the blocks have", Probe.blocks(first), Probe.blocks(state.get()));
-        CycleController second = state.get();
-        check.due(what, call.applyAsInt(second), due);
-        same(what + ": what the programs do", Probe.programs(second), Probe.programs(state.get()));
+        Supplier<CycleController> called = () -> {
+            CycleController x = state.get();
+            check.due(what, call.applyAsInt(x), due);
+            return x;
+        };
+        unchanged(what, called, state);
+        CycleController x = called.get();
+        check.due(what + ", once more", call.applyAsInt(x), due);
+        same(what + ", once more", Probe.questions(x), Probe.questions(state.get()));
+    }
+
+    private static void unchanged(String what, Supplier<CycleController> called, Supplier<CycleController> state) {
+        same(what + ": questions", Probe.questions(called.get()), Probe.questions(state.get()));
+        same(what + ": what the blocks have", Probe.blocks(called.get()), Probe.blocks(state.get()));
+        same(what + ": what the programs do", Probe.programs(called.get()), Probe.programs(state.get()));
     }
 
     private static void same(String what, List<Integer> got, List<Integer> want) {
@@ -49,7 +57,8 @@ public final class RefusedTest {
     /** Variables, inputs, cells, outputs and blocks have something; program 0 runs, and program 1 is not whole. */
     private static CycleController busy() {
         CycleController x = new CycleController();
-        feedAll(x, 0, 1, 10, 130, 100, 251, 1, 34, 100, 121, 1, 30, 100, 1, 61, 122, 290, 1, 64, 122, 250, 252, 67, 122);
+        feedAll(x, 0, 1, 10, 130, 100, 251, 1, 34, 100, 121, 1, 30, 100,
+            1, 61, 122, 255, 1, 64, 122, 250, 251, 67, 135, 251, 100);
         feedAll(x, 1, 35, 120, 12);
         for (int v = 1; v < 16; v++) {
             x.poke(v, 100 + v);
@@ -166,30 +175,49 @@ public final class RefusedTest {
         states.add(RefusedTest::busy);
         states.add(RefusedTest::halted);
         states.add(RefusedTest::crowded);
+        List<ToIntFunction<CycleController>> questions = allQuestions();
+        check.block("all that is asked for has something", busy(), 1, 5, 1, 1, 1, 1);
         for (Supplier<CycleController> state : states) {
-            CycleController x = asked(state.get());
-            same("questions, then the blocks", Probe.blocks(x), Probe.blocks(state.get()));
-            x = asked(state.get());
-            same("questions, then the programs", Probe.programs(x), Probe.programs(state.get()));
-            x = state.get();
-            same("the same questions again", Probe.questions(x), Probe.questions(x));
+            Supplier<CycleController> called = () -> asked(state.get(), questions);
+            unchanged("all questions", called, state);
+            for (int i = 0; i < questions.size(); i++) {
+                int alone = questions.get(i).applyAsInt(state.get());
+                check.due("question " + i + " after all of them", questions.get(i).applyAsInt(called.get()), alone);
+            }
         }
     }
 
-    /** All questions, with wrong numbers too. */
-    private static CycleController asked(CycleController x) {
-        for (int i = -1; i <= 16; i++) {
-            x.variable(i);
-            x.cell(i);
-            x.output(i);
-            x.complete(i);
+    private static CycleController asked(CycleController x, List<ToIntFunction<CycleController>> questions) {
+        for (ToIntFunction<CycleController> question : questions) {
+            question.applyAsInt(x);
         }
-        for (int k = -1; k <= 3; k++) {
-            for (int what = -1; what <= 5; what++) {
-                x.block(k, what);
+        return x;
+    }
+
+    /** With wrong numbers too. */
+    private static List<ToIntFunction<CycleController>> allQuestions() {
+        List<ToIntFunction<CycleController>> all = new ArrayList<>();
+        for (int i = -1; i <= 16; i++) {
+            int number = i;
+            all.add(x -> x.variable(number));
+            if (i <= 8) {
+                all.add(x -> x.cell(number));
+            }
+            if (i <= 4) {
+                all.add(x -> x.output(number));
+            }
+            if (i <= 2) {
+                all.add(x -> x.complete(number));
             }
         }
-        x.digest();
-        return x;
+        for (int i = -1; i <= 3; i++) {
+            for (int j = -1; j <= 5; j++) {
+                int k = i;
+                int what = j;
+                all.add(x -> x.block(k, what));
+            }
+        }
+        all.add(CycleController::digest);
+        return all;
     }
 }

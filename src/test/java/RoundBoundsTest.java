@@ -26,6 +26,7 @@ public final class RoundBoundsTest {
         check.sentence("where another one would begin", RoundBoundsTest::noOtherOne);
         check.sentence("the program is over", RoundBoundsTest::programIsOver);
         check.sentence("A CYCLE: .. the active program is carried out.", RoundBoundsTest::eachCycleAnew);
+        check.sentence("a list of at most 60 TOKENS: loops in one another", RoundBoundsTest::deepest);
         check.end();
     }
 
@@ -272,5 +273,31 @@ public final class RoundBoundsTest {
         x = after(Check.list(1), up(1), Check.list(1, 39), up(0));
         check.cycle(x, 0);
         check.variables("from the beginning, after 39", x, 0, 2);
+    }
+
+    /** As many loops in one another as sixty tokens allow. */
+    private static void deepest() {
+        int[] whiles = new int[0];
+        int[] untils = new int[0];
+        int[] ends = new int[0];
+        for (int i = 0; i < 28; i++) {
+            whiles = Check.join(whiles, Check.list(36, N1));
+            untils = Check.join(untils, Check.list(37));
+            ends = Check.join(ends, Check.list(N0));
+        }
+        // The 26 outer ones have one round each, and 274 are left: 13 times 21, and one.
+        CycleController x = after(whiles, up(0));
+        check.variables("28 times 36", x, 260);
+        x = after(untils, up(0), ends);
+        check.variables("28 times 37", x, 260);
+        int[] counts = new int[0];
+        for (int v = 1; v < 16; v++) {
+            counts = Check.join(counts, Check.list(40 + v, N1, Check.n(40)));
+        }
+        // The 13 outer ones have one round each, and 287 are left: 13 times 21, then one and 13.
+        x = after(counts, up(0));
+        check.variables("15 times 40", x, 273, 1, 1);
+        check.due("variable(14)", x.variable(14), 14);
+        check.due("variable(15)", x.variable(15), 14);
     }
 }
