@@ -85,6 +85,19 @@ final class Check {
         }
     }
 
+    /** Each variable, cell and output is 0. */
+    void zeros(CycleController x) {
+        for (int v = 0; v < 16; v++) {
+            due("variable(" + v + ")", x.variable(v), 0);
+        }
+        for (int c = 0; c < 8; c++) {
+            due("cell(" + c + ")", x.cell(c), 0);
+        }
+        for (int o = 0; o < 4; o++) {
+            due("output(" + o + ")", x.output(o), 0);
+        }
+    }
+
     static int[] join(int[]... lists) {
         return java.util.Arrays.stream(lists).flatMapToInt(java.util.Arrays::stream).toArray();
     }

@@ -92,7 +92,7 @@ public final class LanguageTest {
         check.due("at most forty fields", own <= 40 ? 1 : 0, 1);
     }
 
-    private static String code() throws IOException {
+    static String code() throws IOException {
         return Files.readString(SOURCE).replaceAll("//[^\n]*", "").replaceAll("(?s)/\\*.*?\\*/", "");
     }
 

@@ -15,15 +15,7 @@ public final class NewObjectTest {
 
     private static void allNumbersAreZero() {
         CycleController x = new CycleController();
-        for (int v = 0; v < 16; v++) {
-            check.due("variable(" + v + ")", x.variable(v), 0);
-        }
-        for (int c = 0; c < 8; c++) {
-            check.due("cell(" + c + ")", x.cell(c), 0);
-        }
-        for (int o = 0; o < 4; o++) {
-            check.due("output(" + o + ")", x.output(o), 0);
-        }
+        check.zeros(x);
         for (int k = 0; k < 3; k++) {
             check.block("new", x, k, 0, 0, 0, 0, 0);
         }

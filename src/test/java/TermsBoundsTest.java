@@ -142,15 +142,7 @@ public final class TermsBoundsTest {
 
     private static void zeroAtFirst() {
         CycleController x = new CycleController();
-        for (int v = 0; v < 16; v++) {
-            check.due("variable(" + v + ")", x.variable(v), 0);
-        }
-        for (int c = 0; c < 8; c++) {
-            check.due("cell(" + c + ")", x.cell(c), 0);
-        }
-        for (int o = 0; o < 4; o++) {
-            check.due("output(" + o + ")", x.output(o), 0);
-        }
+        check.zeros(x);
         check.load(x, 0, 1, 10, 120, 1, 11, 121, 1, 12, 122, 13, 123);
         for (int v = 0; v < 4; v++) {
             x.poke(v, 9);
